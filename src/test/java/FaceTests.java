@@ -1,0 +1,78 @@
+import java.lang.reflect.Constructor;
+import java.lang.reflect.Field;
+import java.lang.reflect.Method;
+import java.lang.reflect.Modifier;
+import java.util.Arrays;
+import java.util.HashSet;
+import java.util.Set;
+import java.util.TreeSet;
+
+/** The public face, and that nothing else of the class can be seen from outside. */
+final class FaceTests {
+    private static final String[] FACE = {
+        "int addAll()", "int append(int)", "int bestOrder(int)", "int clearBuffer()", "int count(int)",
+        "int cut(int,int)", "long digest()", "int doneIn(int)", "int drop(int)", "int firstError()",
+        "int ifPassed(int,int)", "double laidShare()", "int missing(int)", "int pass(int)",
+        "int section(int,int,int)", "int sectionOf(int,int)", "int set(int,int)", "int setting(int)",
+        "int store(int,int)", "int sweep(int)", "int taken(int)", "int tip(int,int)", "int tone(int,int)",
+        "int tray(int,int)", "int undo()",
+    };
+
+    private FaceTests() {
+    }
+
+    static void promise01TheFaceIsThatOfTheDocument() {
+        Set<String> open = new TreeSet<>();
+        Set<String> openNames = new HashSet<>();
+        for (Method method : GoldSheets.class.getDeclaredMethods()) {
+            if (!Modifier.isPrivate(method.getModifiers())) {
+                open.add(signatureOf(method));
+                openNames.add(method.getName());
+                Checks.holds(method.getName() + " is public", Modifier.isPublic(method.getModifiers()));
+            }
+        }
+        Checks.holds("the methods " + open, open.equals(new TreeSet<>(Arrays.asList(FACE))));
+        Checks.holds("no private method bears a public name", privateNames(GoldSheets.class, openNames).isEmpty());
+        Checks.holds("the class is final", Modifier.isFinal(GoldSheets.class.getModifiers()));
+        Constructor<?>[] constructors = GoldSheets.class.getDeclaredConstructors();
+        Checks.due("constructors", constructors.length, 1);
+        Checks.due("parameters of the constructor", constructors[0].getParameterCount(), 0);
+    }
+
+    static void promise01TheOnlyOpenFieldIsNone() {
+        for (Field field : GoldSheets.class.getDeclaredFields()) {
+            boolean isPrivate = Modifier.isPrivate(field.getModifiers());
+            Checks.holds(field.getName() + " is private or NONE", isPrivate || field.getName().equals("NONE"));
+            if (Modifier.isStatic(field.getModifiers())) {
+                Checks.holds(field.getName() + " is final", Modifier.isFinal(field.getModifiers()));
+            }
+        }
+        Checks.due("NONE", GoldSheets.NONE, -1);
+    }
+
+    private static String signatureOf(Method method) {
+        StringBuilder text = new StringBuilder(method.getReturnType().getName());
+        text.append(' ').append(method.getName()).append('(');
+        for (Class<?> type : method.getParameterTypes()) {
+            text.append(text.charAt(text.length() - 1) == '(' ? "" : ",").append(type.getName());
+        }
+        return text.append(')').toString();
+    }
+
+    private static Set<String> privateNames(Class<?> owner, Set<String> among) {
+        Set<String> names = new TreeSet<>();
+        for (Method method : owner.getDeclaredMethods()) {
+            if (Modifier.isPrivate(method.getModifiers()) && among.contains(method.getName())) {
+                names.add(method.getName());
+            }
+        }
+        for (Class<?> inside : owner.getDeclaredClasses()) {
+            for (Method method : inside.getDeclaredMethods()) {
+                if (among.contains(method.getName())) {
+                    names.add(inside.getSimpleName() + "." + method.getName());
+                }
+            }
+        }
+        return names;
+    }
+}
