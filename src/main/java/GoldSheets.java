@@ -126,7 +126,9 @@ public final class GoldSheets {
         }
         history.save(dome);
         int before = sumOf(dome.laid);
-        dome.passDays(days);
+        for (int passed = 0; passed < days; passed++) {
+            dome.passDay();
+        }
         return sumOf(dome.laid) - before;
     }
 
@@ -152,7 +154,7 @@ public final class GoldSheets {
     }
 
     public int addAll() throws IllegalArgumentException, IllegalStateException {
-        if (!text.isComplete()) {
+        if (!text.readSections()) {
             throw new IllegalArgumentException("the buffer is not complete sections as a text");
         }
         if (dome.sections.size + text.parts > MOST_SECTIONS) {
@@ -249,8 +251,7 @@ public final class GoldSheets {
     public int ifPassed(int days, int what) throws IllegalArgumentException {
         requireRange(days, 1, MOST_DAYS);
         requireRange(what, 0, 3);
-        trial.copyFrom(dome);
-        trial.passDays(days);
+        passTrial(days, valueAt(dome.settings, ORDER));
         switch (what) {
             case 0: return sumOf(trial.laid) - sumOf(dome.laid);
             case 1: return trial.done - dome.done;
@@ -366,7 +367,9 @@ public final class GoldSheets {
     private void passTrial(int days, int order) {
         trial.copyFrom(dome);
         trial.changeSetting(ORDER, order);
-        trial.passDays(days);
+        for (int passed = 0; passed < days; passed++) {
+            trial.passDay();
+        }
     }
 
     private int requireSection(int number) {
@@ -753,12 +756,6 @@ public final class GoldSheets {
             return previous;
         }
 
-        void passDays(int days) {
-            for (int passed = 0; passed < days; passed++) {
-                passDay();
-            }
-        }
-
         void passDay() {
             int setters = settings[SETTERS];
             for (int tray = 0; tray < TRAYS && setters > 0; tray++) {
@@ -922,7 +919,8 @@ public final class GoldSheets {
             return length;
         }
 
-        boolean isComplete() {
+        /** Returns whether the buffer is complete sections as a text. */
+        boolean readSections() {
             if (read() < length || stage != IN_DAY) {
                 return false;
             }

@@ -1,5 +1,6 @@
 import java.lang.reflect.Constructor;
 import java.lang.reflect.Field;
+import java.lang.reflect.InvocationTargetException;
 import java.lang.reflect.Method;
 import java.lang.reflect.Modifier;
 import java.util.Arrays;
@@ -48,6 +49,34 @@ final class FaceTests {
             }
         }
         Checks.due("NONE", GoldSheets.NONE, -1);
+    }
+
+    static void promise01NothingButTheExceptionsOfTheFaceIsThrown() throws IllegalAccessException {
+        int[] odd = {Integer.MIN_VALUE, -1, 0, 1, 59, Integer.MAX_VALUE};
+        for (Method method : GoldSheets.class.getDeclaredMethods()) {
+            if (!Modifier.isPublic(method.getModifiers())) {
+                continue;
+            }
+            GoldSheets x = Looks.withText("5a@9");
+            x.section(0, 9, 9);
+            int arguments = method.getParameterCount();
+            for (int mix = 0; mix < Math.pow(odd.length, arguments); mix++) {
+                Object[] values = new Object[arguments];
+                for (int index = 0, rest = mix; index < arguments; index++, rest /= odd.length) {
+                    values[index] = odd[rest % odd.length];
+                }
+                Checks.holds(signatureOf(method) + " of " + Arrays.toString(values), isOfTheFace(x, method, values));
+            }
+        }
+    }
+
+    private static boolean isOfTheFace(GoldSheets x, Method method, Object[] values) throws IllegalAccessException {
+        try {
+            method.invoke(x, values);
+            return true;
+        } catch (InvocationTargetException e) {
+            return Arrays.asList(method.getExceptionTypes()).contains(e.getCause().getClass());
+        }
     }
 
     private static String signatureOf(Method method) {

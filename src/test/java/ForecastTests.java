@@ -97,6 +97,22 @@ final class ForecastTests {
         Checks.refuses(x, NO_ARGUMENT, "ifPassed(1, 4)", () -> x.ifPassed(1, 4));
     }
 
+    static void promise22OnlyWhatTheDaysBring() {
+        GoldSheets x = new GoldSheets();
+        x.set(3, 1);
+        x.section(0, 5, 0);
+        x.section(0, 10, 0);
+        x.pass(4);
+        x.cut(0, 0);
+        x.pass(1);
+        Checks.due("count(4)", x.count(4), 4);
+        // the other one will be done on day 5, and one of 11 cubes breaks
+        int[] brings = {10, 1, 5, 1};
+        for (int what = 0; what <= 3; what++) {
+            Checks.due("ifPassed(2, " + what + ")", x.ifPassed(2, what), brings[what]);
+        }
+    }
+
     static void promise22TheLastDayDoesNotMatter() {
         GoldSheets x = new GoldSheets();
         for (int time = 0; time < 167; time++) {
@@ -190,6 +206,24 @@ final class ForecastTests {
         Checks.due("bestOrder(2)", y.bestOrder(2), 0);
     }
 
+    static void promise24BestOrderByDoneIsByDay() {
+        GoldSheets x = new GoldSheets();
+        x.set(3, 1);
+        x.set(4, 10);
+        x.set(5, 0);
+        x.set(0, 10);
+        x.section(0, 11, 9);
+        x.section(1, 12, 0);
+        x.cut(0, 0);
+        x.cut(1, 1);
+        x.cut(1, 1);
+        // by cubes the first day goes to a section that cannot be done
+        Checks.due("bestOrder(2)", x.bestOrder(2), 0);
+        x.set(2, 1);
+        Checks.due("ifPassed(2, 1) by cubes", x.ifPassed(2, 1), 0);
+        Checks.due("bestOrder(2) from the other order", x.bestOrder(2), 0);
+    }
+
     static void promise24BestOrderRefuses() {
         GoldSheets x = new GoldSheets();
         Checks.due("bestOrder(1)", x.bestOrder(1), 0);
@@ -219,6 +253,13 @@ final class ForecastTests {
         y.cut(2, 0);
         y.pass(1);
         Checks.dueShare("laidShare() of all", y.laidShare(), 1.0);
+    }
+
+    static void promise25LaidShareOfOneCube() {
+        GoldSheets x = new GoldSheets();
+        x.set(0, 1);
+        x.cut(0, 0);
+        Checks.dueShare("laidShare()", x.laidShare(), 0.0);
     }
 
     static void promise26Digest() {

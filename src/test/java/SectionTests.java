@@ -68,6 +68,17 @@ final class SectionTests {
         Checks.due("laid behind undo", x.sectionOf(0, 4), 45);
     }
 
+    static void promise07NothingIsLeftOfOneThatIsDropped() {
+        GoldSheets x = new GoldSheets();
+        x.section(0, 100, 4);
+        x.cut(0, 0);
+        x.pass(1);
+        x.drop(0);
+        x.section(3, 7, 2);
+        Checks.holds("a new section", Looks.sectionsOf(x).equals("1,3,7,2,0,0"));
+        Checks.due("drop(1)", x.drop(1), 0);
+    }
+
     static void promise07DropRefuses() {
         GoldSheets x = new GoldSheets();
         Checks.refuses(x, NO_INDEX, "drop(0)", () -> x.drop(0));
@@ -268,6 +279,58 @@ final class SectionTests {
         // section 1 gets 10 and 5 and then finds no cube; section 2 gets 10, section 0 none
         Checks.due("pass(1)", x.pass(1), 25);
         Checks.holds("then", Looks.sectionsOf(x).equals("1,0,6,5,15,0 2,1,14,5,10,0 0,0,25,5,0,0"));
+    }
+
+    static void promise09TheOrderFollowsTheLaying() {
+        GoldSheets x = new GoldSheets();
+        x.set(2, 1);
+        x.section(0, 50, 5);
+        x.section(1, 40, 5);
+        x.section(2, 45, 5);
+        x.cut(0, 0);
+        Checks.holds("order", Looks.orderOf(x).equals("1 2 0"));
+        x.pass(1);
+        Checks.holds("order behind a day", Looks.sectionsOf(x).equals("0,0,5,5,45,0 1,1,40,5,0,0 2,2,45,5,0,0"));
+    }
+
+    static void promise09SingleCubes() {
+        GoldSheets x = new GoldSheets();
+        x.set(0, 1);
+        x.set(3, 1);
+        x.section(0, 2, 5);
+        x.cut(0, 0);
+        Checks.due("pass(1) with a single cube", x.pass(1), 1);
+        x.cut(0, 1);
+        x.cut(1, 1);
+        Checks.due("count(5)", x.count(5), 1);
+        Checks.due("pass(1) sorts single cubes", x.pass(1), 0);
+        Checks.holds("tray 1", Looks.trayOf(x, 1).equals("1,0,0,0"));
+        Checks.holds("tray 0", Looks.trayOf(x, 0).equals("0,1,0,0"));
+        Checks.due("pass(1) then", x.pass(1), 1);
+        Checks.due("count(2)", x.count(2), 1);
+    }
+
+    static void promise09ASetterPassesByMixedTrays() {
+        GoldSheets x = new GoldSheets();
+        x.set(1, 100);
+        x.set(5, 0);
+        x.set(3, 3);
+        x.section(0, 60, 5);
+        x.cut(0, 0);
+        x.cut(1, 0);
+        x.cut(0, 2);
+        x.cut(1, 1);
+        x.cut(2, 3);
+        x.cut(2, 4);
+        x.cut(3, 5);
+        // no tray is empty: tray 0 stays mixed up, and only the 50 of tray 2 can be taken
+        Checks.due("pass(1)", x.pass(1), 50);
+        Checks.holds("tray 0", Looks.trayOf(x, 0).equals("50,50,0,0"));
+        Checks.due("tray(2, NONE)", x.tray(2, -1), 0);
+        // now tone 1 goes to tray 2, and the 50 of tray 0 are there to be taken
+        Checks.due("pass(1) then", x.pass(1), 10);
+        Checks.due("tray(0, 0)", x.tray(0, 0), 40);
+        Checks.due("tray(2, 1)", x.tray(2, 1), 50);
     }
 
     static void promise09LateSections() {

@@ -113,6 +113,18 @@ final class TextTests {
         Checks.due("the next number", x.section(0, 1, 1), 1);
     }
 
+    static void promise13TheTextIsReadAnew() {
+        GoldSheets x = Looks.withText("1a@0;2b@0");
+        x.firstError();
+        Looks.type(x, ";3c@0");
+        x.firstError();
+        Checks.due("addAll()", x.addAll(), 3);
+        Looks.type(x, "4d@0");
+        Checks.due("addAll() again", x.addAll(), 4);
+        Checks.holds("sections", Looks.sectionsOf(x)
+                .equals("0,0,1,0,0,0 1,1,2,0,0,0 2,2,3,0,0,0 3,3,4,0,0,0"));
+    }
+
     static void promise13UpToTen() {
         GoldSheets x = new GoldSheets();
         Looks.type(x, "1a@0;1a@0;1a@0;1a@0;1a@0;1a@0;1a@0;1a@0;1a@0;1a@0");
@@ -166,6 +178,26 @@ final class TextTests {
         Checks.due("undo()", x.undo(), 0);
         Checks.holds("as new", Looks.of(x).equals(first));
         Checks.refuses(x, NO_STATE, "undo()", x::undo);
+    }
+
+    static void promise14WhatIsCountedIsRestored() {
+        GoldSheets x = new GoldSheets();
+        x.section(2, 5, 0);
+        x.pass(2);
+        x.cut(2, 0);
+        x.cut(1, 0);
+        String before = Looks.of(x);
+        x.pass(1);
+        int[] then = {3, 0, 1, 1, 2, 0, 4, 0, 1, 5};
+        for (int what = 0; what <= 9; what++) {
+            Checks.due("count(" + what + ")", x.count(what), then[what]);
+        }
+        x.undo();
+        Checks.due("count(2) behind undo", x.count(2), 0);
+        Checks.due("count(3) behind undo", x.count(3), 0);
+        Checks.due("count(4) behind undo", x.count(4), 0);
+        Checks.due("count(8) behind undo", x.count(8), 0);
+        Checks.holds("all is as before", Looks.of(x).equals(before));
     }
 
     static void promise14TheOldestIsDropped() {
