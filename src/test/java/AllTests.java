@@ -4,12 +4,17 @@ import java.util.Arrays;
 import java.util.Comparator;
 import java.util.TreeSet;
 
-/** Runs every method of the test classes that is named promiseNN..., and fails if a promise has none. */
+/**
+ * Runs every method of the test classes that is named promiseNN..., and fails if a promise has none,
+ * or none named promiseNNEdge..., which is a test at a boundary that the document names.
+ */
 public final class AllTests {
     private static final int PROMISES = 26;
     private static final Class<?>[] CLASSES = {
         GoldTests.class, SectionTests.class, TextTests.class, LookTests.class,
-        ForecastTests.class, FaceTests.class, ModelTests.class,
+        ForecastTests.class, GoldEdges.class, SectionEdges.class, DayEdges.class, TextEdges.class,
+        UndoEdges.class, LookEdges.class, ForecastEdges.class, DigestEdges.class, RefusalTests.class,
+        FaceTests.class, ModelTests.class,
     };
 
     private AllTests() {
@@ -17,6 +22,7 @@ public final class AllTests {
 
     public static void main(String[] args) throws IllegalAccessException {
         TreeSet<Integer> tested = new TreeSet<>();
+        TreeSet<Integer> testedAtEdges = new TreeSet<>();
         int passed = 0;
         int failed = 0;
         for (Class<?> tests : CLASSES) {
@@ -26,7 +32,11 @@ public final class AllTests {
                 if (!method.getName().startsWith("promise")) {
                     continue;
                 }
-                tested.add(Integer.parseInt(method.getName().substring(7, 9)));
+                int number = Integer.parseInt(method.getName().substring(7, 9));
+                tested.add(number);
+                if (method.getName().startsWith("Edge", 9)) {
+                    testedAtEdges.add(number);
+                }
                 if (passes(method)) {
                     passed++;
                 } else {
@@ -39,6 +49,10 @@ public final class AllTests {
             if (!tested.contains(promise)) {
                 failed++;
                 System.out.println("FAILED: promise " + promise + " has no test");
+            }
+            if (!testedAtEdges.contains(promise)) {
+                failed++;
+                System.out.println("FAILED: promise " + promise + " has no test at its edges");
             }
         }
         System.out.println(Checks.passed() + " answers as due, " + Checks.failed() + " not");

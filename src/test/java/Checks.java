@@ -26,6 +26,10 @@ final class Checks {
         note(Double.compare(got, want) == 0, what + " answered " + got + ", due is " + want);
     }
 
+    static void dueText(String what, String got, String want) {
+        note(got.equals(want), what + " answered " + got + ", due is " + want);
+    }
+
     static void holds(String what, boolean holds) {
         note(holds, what + " does not hold");
     }

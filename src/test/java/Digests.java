@@ -1,3 +1,7 @@
+import java.math.BigInteger;
+import java.util.ArrayList;
+import java.util.List;
+
 /** The hash of promise 26, made of what the other calls answer. */
 final class Digests {
     /** What the hash is made of, of the class or of the model. */
@@ -31,7 +35,20 @@ final class Digests {
     }
 
     static long of(GoldSheets x, String buffer) {
-        return hash(new Answers() {
+        return hash(answersOf(x, buffer));
+    }
+
+    /** The hash as it would be if no arithmetic overflowed. */
+    static BigInteger unbounded(GoldSheets x, String buffer) {
+        BigInteger hash = BigInteger.valueOf(3023);
+        for (long value : valuesOf(answersOf(x, buffer))) {
+            hash = hash.multiply(BigInteger.valueOf(31)).add(BigInteger.valueOf(value));
+        }
+        return hash;
+    }
+
+    private static Answers answersOf(GoldSheets x, String buffer) {
+        return new Answers() {
             @Override int count(int what) {
                 return x.count(what);
             }
@@ -79,7 +96,7 @@ final class Digests {
             @Override String buffer() {
                 return buffer;
             }
-        });
+        };
     }
 
     static long of(Model model) {
@@ -136,37 +153,45 @@ final class Digests {
 
     private static long hash(Answers from) {
         long hash = 3023;
+        for (long value : valuesOf(from)) {
+            hash = 31 * hash + value;
+        }
+        return hash;
+    }
+
+    private static List<Long> valuesOf(Answers from) {
+        List<Long> values = new ArrayList<>();
         for (int what = 0; what <= 9; what++) {
-            hash = 31 * hash + from.count(what);
+            values.add((long) from.count(what));
         }
         for (int setting = 0; setting < 6; setting++) {
-            hash = 31 * hash + from.setting(setting);
+            values.add((long) from.setting(setting));
         }
         for (int cell = 0; cell < 24; cell++) {
-            hash = 31 * hash + from.tray(cell / 4, cell % 4);
+            values.add((long) from.tray(cell / 4, cell % 4));
         }
         for (int place = 0; from.sectionOf(place, 0) != -1; place++) {
             for (int what = 0; what <= 5; what++) {
-                hash = 31 * hash + from.sectionOf(place, what);
+                values.add((long) from.sectionOf(place, what));
             }
-            hash = 31 * hash + from.doneIn(from.sectionOf(place, 0));
+            values.add((long) from.doneIn(from.sectionOf(place, 0)));
         }
         for (int tone = 0; tone < 4; tone++) {
             for (int what = 0; what <= 6; what++) {
-                hash = 31 * hash + from.tone(tone, what);
+                values.add((long) from.tone(tone, what));
             }
-            hash = 31 * hash + from.missing(tone);
+            values.add((long) from.missing(tone));
         }
-        hash = 31 * hash + from.taken(100);
+        values.add((long) from.taken(100));
         for (int what = 0; what <= 3; what++) {
-            hash = 31 * hash + from.ifPassed(5, what);
+            values.add((long) from.ifPassed(5, what));
         }
-        hash = 31 * hash + from.bestOrder(9);
-        hash = 31 * hash + Double.doubleToLongBits(from.laidShare());
-        hash = 31 * hash + from.buffer().length();
+        values.add((long) from.bestOrder(9));
+        values.add(Double.doubleToLongBits(from.laidShare()));
+        values.add((long) from.buffer().length());
         for (char code : from.buffer().toCharArray()) {
-            hash = 31 * hash + code;
+            values.add((long) code);
         }
-        return hash;
+        return values;
     }
 }

@@ -264,16 +264,16 @@ final class ForecastTests {
 
     static void promise26Digest() {
         Checks.due("digest() of a new object", new GoldSheets().digest(), Digests.of(new GoldSheets(), ""));
-        GoldSheets x = longOrShort();
-        x.cut(3, 0);
-        x.cut(2, 4);
-        Looks.type(x, "9a@5;");
-        for (int time = 0; time < 14; time++) {
-            Checks.due("digest() on day " + time, x.digest(), Digests.of(x, "9a@5;"));
+        for (int day = 0; day < 14; day++) {
+            GoldSheets x = longOrShort();
+            x.cut(3, 0);
+            x.cut(2, 4);
+            Looks.type(x, "9a@5;");
+            Made.passTo(x, day);
+            Checks.due("digest() on day " + day, x.digest(), Digests.of(x, "9a@5;"));
             Checks.due("digest() again", x.digest(), Digests.of(x, "9a@5;"));
-            x.pass(1);
+            x.clearBuffer();
+            Checks.due("digest() without a text", x.digest(), Digests.of(x, ""));
         }
-        x.clearBuffer();
-        Checks.due("digest() at last", x.digest(), Digests.of(x, ""));
     }
 }

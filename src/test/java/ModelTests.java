@@ -1,12 +1,14 @@
 /** Runs of calls on the class and on the model side by side, the same ones each time. */
 final class ModelTests {
     private static final int RUNS = 400;
+    // An object has 512 calls; a step makes at most eleven.
     private static final int CALLS = 500;
 
     private final GoldSheets x = new GoldSheets();
     private final Model model = new Model();
     private final int lively;
     private long seed;
+    private int calls = 0;
 
     private ModelTests(long seed, int lively) {
         this.seed = seed;
@@ -17,8 +19,8 @@ final class ModelTests {
         for (int run = 1; run <= RUNS; run++) {
             ModelTests both = new ModelTests(run * 7919L, run % 4);
             int failedBefore = Checks.failed();
-            for (int call = 0; call < CALLS && Checks.failed() == failedBefore; call++) {
-                both.step("run " + run + " call " + call + ": ");
+            while (both.calls < CALLS && Checks.failed() == failedBefore) {
+                both.step("run " + run + " call " + both.calls + ": ");
             }
         }
     }
@@ -69,7 +71,8 @@ final class ModelTests {
         Checks.holds(what + " answered " + answers[0] + ", due is " + answers[1], answers[0].equals(answers[1]));
     }
 
-    private static String[] pair(Checks.Call own, String refusal, Checks.Call due) {
+    private String[] pair(Checks.Call own, String refusal, Checks.Call due) {
+        calls++;
         return new String[] {Checks.outcome(own), refusal != null ? refusal : Long.toString(due.answer())};
     }
 
@@ -252,6 +255,7 @@ final class ModelTests {
     }
 
     private String[] digest() {
+        calls++;
         Checks.dueShare("laidShare()", x.laidShare(), model.laidShare());
         return pair(x::digest, null, () -> Digests.of(model));
     }
