@@ -5,8 +5,8 @@ import java.util.Comparator;
 import java.util.TreeSet;
 
 /**
- * Runs every method of the test classes that is named promiseNN..., and fails if a promise has none,
- * or none named promiseNNEdge..., which is a test at a boundary that the document names.
+ * Runs every method of the test classes that is named promiseNN... or readme..., and fails if a promise has
+ * none, or none named promiseNNEdge..., which is a test at a boundary that the document names.
  */
 public final class AllTests {
     private static final int PROMISES = 26;
@@ -14,7 +14,7 @@ public final class AllTests {
         GoldTests.class, SectionTests.class, TextTests.class, LookTests.class,
         ForecastTests.class, GoldEdges.class, SectionEdges.class, DayEdges.class, TextEdges.class,
         UndoEdges.class, LookEdges.class, ForecastEdges.class, DigestEdges.class, RefusalTests.class,
-        FaceTests.class, ModelTests.class,
+        FaceTests.class, ModelTests.class, ReadmeTests.class,
     };
 
     private AllTests() {
@@ -29,13 +29,16 @@ public final class AllTests {
             Method[] methods = tests.getDeclaredMethods();
             Arrays.sort(methods, Comparator.comparing(Method::getName));
             for (Method method : methods) {
-                if (!method.getName().startsWith("promise")) {
+                boolean isOfPromise = method.getName().startsWith("promise");
+                if (!isOfPromise && !method.getName().startsWith("readme")) {
                     continue;
                 }
-                int number = Integer.parseInt(method.getName().substring(7, 9));
-                tested.add(number);
-                if (method.getName().startsWith("Edge", 9)) {
-                    testedAtEdges.add(number);
+                if (isOfPromise) {
+                    int number = Integer.parseInt(method.getName().substring(7, 9));
+                    tested.add(number);
+                    if (method.getName().startsWith("Edge", 9)) {
+                        testedAtEdges.add(number);
+                    }
                 }
                 if (passes(method)) {
                     passed++;

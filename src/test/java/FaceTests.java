@@ -1,12 +1,17 @@
+import java.io.IOException;
 import java.lang.reflect.Constructor;
 import java.lang.reflect.Field;
 import java.lang.reflect.InvocationTargetException;
 import java.lang.reflect.Method;
 import java.lang.reflect.Modifier;
+import java.nio.file.Files;
+import java.nio.file.Path;
 import java.util.Arrays;
 import java.util.HashSet;
 import java.util.Set;
 import java.util.TreeSet;
+import java.util.regex.Matcher;
+import java.util.regex.Pattern;
 
 /** The public face, and that nothing else of the class can be seen from outside. */
 final class FaceTests {
@@ -19,7 +24,39 @@ final class FaceTests {
         "int tray(int,int)", "int undo()",
     };
 
+    // What stands in front of a body, a value or the end of a declaration.
+    private static final Pattern PUBLIC = Pattern.compile("\\bpublic [^;{=]*");
+
     private FaceTests() {
+    }
+
+    /** The names of the calls. */
+    static Set<String> names() {
+        Set<String> names = new TreeSet<>();
+        for (String signature : FACE) {
+            names.add(signature.substring(signature.indexOf(' ') + 1, signature.indexOf('(')));
+        }
+        return names;
+    }
+
+    static void promise01TheFaceIsTheCodeBlockOfTheDocument() throws IOException {
+        String document = Files.readString(Path.of("..", "shared", "DOC.md"));
+        int start = document.indexOf("```java");
+        String block = document.substring(start, document.indexOf("```", start + 3));
+        Set<String> due = publicIn(block);
+        Set<String> got = publicIn(Files.readString(Path.of("src", "main", "java", "GoldSheets.java")));
+        // The class, NONE, the constructor and the calls.
+        Checks.due("public declarations of the document", due.size(), 3 + FACE.length);
+        Checks.dueText("the public declarations", String.join("\n", got), String.join("\n", due));
+    }
+
+    private static Set<String> publicIn(String text) {
+        Set<String> declarations = new TreeSet<>();
+        Matcher matcher = PUBLIC.matcher(text);
+        while (matcher.find()) {
+            declarations.add(matcher.group().replaceAll("\\s+", " ").trim());
+        }
+        return declarations;
     }
 
     static void promise01TheFaceIsThatOfTheDocument() {
@@ -38,6 +75,8 @@ final class FaceTests {
         Constructor<?>[] constructors = GoldSheets.class.getDeclaredConstructors();
         Checks.due("constructors", constructors.length, 1);
         Checks.due("parameters of the constructor", constructors[0].getParameterCount(), 0);
+        Checks.holds("the constructor is public", Modifier.isPublic(constructors[0].getModifiers()));
+        Checks.due("exceptions of the constructor", constructors[0].getExceptionTypes().length, 0);
     }
 
     static void promise01TheOnlyOpenFieldIsNone() {
